@@ -5,7 +5,7 @@ import java.util.TreeSet;
 
 // Long runs of calls, each answer compared with that of a slow model that follows the document's terms word by word.
 public final class ModelTest {
-    private static final int RUNS = 300;
+    private static final int RUNS = 500;
     private static final int CALLS = 512;
 
     /** A kind, or what has none, is a text: equal texts are equal kinds. */
@@ -299,21 +299,61 @@ public final class ModelTest {
     }
 
     private int anyLeaf(int i) {
-        int usual = 4 + model.parameters.size();
-        int own = model.has(i) ? model.parameters.get(i) : 0;
-        return own > 0 && pick(2) == 0 ? 1 + pick(own) : 3 + pick(usual);
+        int own = model.parameters.get(i);
+        if (own > 0 && pick(3) == 0) {
+            return 1 + pick(own);
+        }
+        return pick(3) == 0 ? 3 + pick(4) : 7 + pick(model.parameters.size());
     }
 
-    /** A head with some arguments: random tokens alone would seldom make a field that has a kind. */
-    private void appendField(int i) {
-        int head = anyLeaf(i);
-        int arguments = head < 3 ? pick(3) : head == 5 ? 2 : head < 7 ? head > 3 ? 1 : 0 : model.parameters.get(head - 7);
-        for (int n = 0; n < arguments; n++) {
-            append(i, 0);
+    private int arguments(int head) {
+        switch (head) {
+            case 1, 2: return pick(3);
+            case 3: return 0;
+            case 4, 6: return 1;
+            case 5: return 2;
+            default: return model.parameters.get(head - 7);
         }
-        append(i, head);
+    }
+
+    private List<Integer> expression(int i, int depth) {
+        int head = anyLeaf(i);
+        int arguments = depth == 0 ? arguments(head) : pick(arguments(head) + 1);
+        List<Integer> row = new ArrayList<>();
         for (int n = 0; n < arguments; n++) {
-            append(i, head == 6 && pick(3) > 0 ? 4 : head < 6 && pick(2) == 0 ? 3 : anyLeaf(i));
+            row.add(0);
+        }
+        row.add(head);
+        for (int n = 0; n < arguments; n++) {
+            row.addAll(depth < 2 && pick(3) == 0 ? expression(i, depth + 1) : List.of(anyLeaf(i)));
+        }
+        return row;
+    }
+
+    private boolean keepsWell(int i, List<Integer> row) {
+        int before = model.tokens.get(i).size();
+        for (int token : row) {
+            model.token(i, token);
+        }
+        boolean well = model.well(i);
+        while (model.tokens.get(i).size() > before) {
+            model.back(i);
+        }
+        return well;
+    }
+
+    /** Fields made at random are seldom well together, so of several one is taken that is, if there is one. */
+    private void appendField(int i) {
+        if (!model.has(i)) {
+            append(i, 3);
+            return;
+        }
+        List<Integer> row = expression(i, 0);
+        for (int n = 0; n < 10 && !keepsWell(i, row); n++) {
+            row = expression(i, 0);
+        }
+        for (int token : row) {
+            append(i, token);
         }
     }
 
@@ -323,30 +363,35 @@ public final class ModelTest {
         }
     }
 
+    private void declare() {
+        int parameters = mostly(3, 20);
+        due("declare(" + parameters + ")", judge.declare(parameters), model.declare(parameters));
+    }
+
+    private void clear() {
+        judge.clear();
+        model.clear();
+        calls.add("clear()");
+    }
+
     private void change() {
         int i = mostly(4, 20);
-        switch (pick(8)) {
-            case 0, 1, 2, 3 -> appendField(i);
-            case 4 -> append(i, mostly(11, 10));
-            case 5 -> takeBack(i, 1 + pick(5));
-            case 6 -> {
-                int parameters = mostly(3, 20);
-                due("declare(" + parameters + ")", judge.declare(parameters), model.declare(parameters));
-            }
-            default -> {
-                if (pick(12) == 0) {
-                    judge.clear();
-                    model.clear();
-                    calls.add("clear()");
-                } else {
-                    notWellAnyMore();
+        switch (pick(20)) {
+            case 0 -> append(i, mostly(11, 10));
+            case 1 -> takeBack(i, 1 + pick(5));
+            case 2, 3, 4, 5 -> declare();
+            case 6, 7, 8 -> takeBackNotWell();
+            case 9 -> {
+                if (pick(8) == 0) {
+                    clear();
                 }
             }
+            default -> appendField(i);
         }
     }
 
     /** Takes a type that is not well back to few tokens, as else it would stay not well for most of the run. */
-    private void notWellAnyMore() {
+    private void takeBackNotWell() {
         for (int i = 0; i < model.parameters.size(); i++) {
             if (!model.well(i) && pick(2) == 0) {
                 takeBack(i, pick(model.tokens.get(i).size() + 1));

@@ -1,6 +1,10 @@
 // The promises of the document one by one: ordinary inputs, the edges it names, and wrong inputs.
 public final class PromisesTest {
-    private static final int[] WRONG = {Integer.MIN_VALUE, -33, -32, -2, -1, 32, 33, 64, Integer.MAX_VALUE};
+    private static final int[] WRONG = {Integer.MIN_VALUE, -33, -32, -31, -2, -1, 32, 33, 36, 37, 64, Integer.MAX_VALUE};
+
+    private static final int[][] ORDERS = {
+        {0, 1, 2, 3}, {3, 2, 1, 0}, {0, 2, 1, 3}, {1, 3, 0, 2}, {2, 0, 3, 1}, {3, 1, 2, 0},
+    };
 
     private static int wrong = 0;
     private static String promise = "";
@@ -262,8 +266,7 @@ public final class PromisesTest {
 
     private static void needs() {
         promise = "promise 8";
-        int[][] orders = {{0, 1, 2, 3}, {3, 2, 1, 0}, {0, 2, 1, 3}, {1, 3, 0, 2}, {2, 0, 3, 1}, {3, 1, 2, 0}};
-        for (int[] order : orders) {
+        for (int[] order : ORDERS) {
             KindJudge x = declared(0, 0, 0, 0);
             for (int n = 0; n < 3; n++) {
                 write(x, order[n], 7 + order[n + 1]);
@@ -420,6 +423,8 @@ public final class PromisesTest {
         dueKinds(x, 1, 3, 1);
         dueKinds(x, 2, 0);
         kindsWithoutNumbers();
+        kindsThroughChains();
+        kindsInOneLargeGroup();
         refusedKinds();
     }
 
@@ -439,6 +444,53 @@ public final class PromisesTest {
         dueKinds(swapped, 0, 0, 1);
         write(swapped, 1, 0, 6, 0, 8, 1);
         dueNotWell(swapped, 1);
+    }
+
+    private static void kindsThroughChains() {
+        for (int[] order : ORDERS) {
+            KindJudge x = declared(1, 1, 1, 1);
+            for (int n = 0; n < 3; n++) {
+                write(x, order[n], 0, 7 + order[n + 1], 1);
+            }
+            for (int n = 0; n < 4; n++) {
+                dueKinds(x, order[n], 0);
+            }
+            write(x, order[3], 0, 1, 4);
+            for (int n = 0; n < 4; n++) {
+                due("group(" + n + ") in a chain", x.group(n), n);
+                dueKinds(x, order[n], 3);
+                dueCould(x, order[n], 0, 1 << 3);
+            }
+            write(x, order[3], 1);
+            for (int n = 0; n < 4; n++) {
+                dueNotWell(x, order[n]);
+            }
+        }
+    }
+
+    private static void kindsInOneLargeGroup() {
+        KindJudge x = declared(2, 2, 2, 0);
+        for (int i = 0; i < 3; i++) {
+            write(x, i, 0, 0, 7 + (i + 1) % 3, 1, 2);
+        }
+        for (int i = 0; i < 3; i++) {
+            dueKinds(x, i, 0, 0);
+            dueCould(x, i, 0, 15);
+            dueCould(x, i, 1, 15);
+        }
+        write(x, 2, 0, 1, 4, 10, 0, 0, 2, 3, 3);
+        write(x, 3, 0, 0, 7, 6, 5);
+        for (int i = 0; i < 3; i++) {
+            dueKinds(x, i, 3, 2);
+            dueCould(x, i, 0, 1 << 3);
+            dueCould(x, i, 1, 1 << 2);
+        }
+        due("group(3)", x.group(3), 0);
+        due("well(3)", x.well(3), true);
+        write(x, 3, 4);
+        for (int i = 0; i < 4; i++) {
+            dueNotWell(x, i);
+        }
     }
 
     private static void refusedKinds() {
